@@ -370,6 +370,7 @@ public final class PromiseTests {
         promise = 16;
         due("nobody", new TallowHours().bars(), NONE);
         due("the second", partyOf("EabC0021Ga109Gb209Ga209").bars(), 1);
+        due("the first of two", partyOf("EabC0021Gc109Gb209").bars(), 0);
         TallowHours either = partyOf("EaC0011Ga100Ga111");
         due("each alone can be", either.bars(), NONE);
         due("not both", either.plan(), NONE);
@@ -430,6 +431,8 @@ public final class PromiseTests {
         due("one", t.pairs(), 1);
         t.light(2);
         due("none", t.pairs(), 0);
+        // ab | ab | -c | d-: the like ones give least together.
+        due("four, apart", partyOf("Eab-cd-C0021C0021C0221C0421").pairs(), 6);
         due("no party", new TallowHours().pairs(), 0);
     }
 
@@ -444,6 +447,7 @@ public final class PromiseTests {
         due("0 then 0", t.judge(2, 0), 1);
         due("no such candle", t.judge(2, 2), 1);
         due("no such thing", t.judge(2, 5), 1);
+        due("eight things", t.judge(8, 4444444), 3);
         due("n 0", t.judge(0, 0), OUTSIDE);
         due("n 9", t.judge(9, 0), OUTSIDE);
         due("row below 0", t.judge(1, -1), OUTSIDE);

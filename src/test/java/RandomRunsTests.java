@@ -20,7 +20,8 @@ public final class RandomRunsTests {
 
     public static void main(String[] args) {
         int wrongs = 0;
-        for (int run = 0; run < RUNS && wrongs < 5; run++) {
+        int runs = args.length == 1 ? Integer.parseInt(args[0]) : RUNS;
+        for (int run = 0; run < runs && wrongs < 5; run++) {
             RandomRunsTests r = new RandomRunsTests(run);
             r.go();
             if (r.wrong) wrongs++;
@@ -73,14 +74,15 @@ public final class RandomRunsTests {
         int moments = random.nextInt(4) == 0 ? upTo(12) : 4 + upTo(8);
         int kinds = 1 + upTo(4);
         for (int i = 0; i < moments; i++) b.append("abcd-".charAt(kinds > 4 ? upTo(4) : random.nextInt(8) == 0 ? 4 : upTo(kinds - 1)));
-        int cs = upTo(4), gs = upTo(4);
+        int most = random.nextInt(8) == 0 ? 5 : 4;
+        int cs = upTo(most), gs = upTo(most);
         while (cs + gs > 0) {
             boolean candle = gs == 0 || cs > 0 && random.nextBoolean();
             if (candle) cs--; else gs--;
-            if (candle && moments == 0) continue;
+            if (candle && moments == 0 && random.nextInt(4) > 0) continue;
             if (candle) {
-                int start = random.nextInt(moments);
-                int l = 1 + random.nextInt(Math.min(6, moments - start));
+                int start = moments == 0 ? 0 : random.nextInt(moments);
+                int l = moments == 0 ? 1 : 1 + random.nextInt(Math.min(6, moments - start));
                 b.append('C').append(start / 10).append(start % 10).append(l).append(1 + upTo(8));
             } else {
                 int a = random.nextInt(3) == 0 ? upTo(9) : upTo(2);
@@ -122,7 +124,7 @@ public final class RandomRunsTests {
                 same("trim(" + c + ", " + k + ")", real.trim(c, k), plain.trim(c, k));
                 break;
             }
-            case 3: case 4: same("step()", real.step(), plain.step()); break;
+            case 3: case 4: for (int n = random.nextInt(25) == 0 ? 21 : 1; n > 0; n--) same("step()", real.step(), plain.step()); break;
             case 5: case 6: case 7: for (int n = random.nextInt(9) == 0 ? 18 : upTo(2); n > 0; n--) same("undo()", real.undo(), plain.undo()); break;
             case 8: {
                 int s = about(1);
@@ -218,7 +220,7 @@ public final class RandomRunsTests {
             case 27: case 28: same("candle(" + a + ", " + what + ")", real.candle(a, what), plain.candle(a, what)); break;
             case 29: case 30: same("guest(" + a + ", " + what + ")", real.guest(a, what), plain.guest(a, what)); break;
             case 31: case 32: same("count(" + p + ")", real.count(p), plain.count(p)); break;
-            default: if (random.nextInt(3) == 0) put(random.nextInt(3) == 0 ? about(255) : "EabC0G1".charAt(upTo(6)));
+            default: if (random.nextInt(3) == 0) put(random.nextInt(3) == 0 ? random.nextInt(9) == 0 ? 0 : about(255) : "EabC0G1".charAt(upTo(6)));
         }
     }
 
