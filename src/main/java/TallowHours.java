@@ -839,7 +839,7 @@ public final class TallowHours {
             for (int candle = 0; candle < MOST_CANDLES; candle++) {
                 burnOn |= layCandle(party, now, candle);
             }
-            tryCandle(0, burnOn, 0);
+            tryCandle(this, 0, burnOn, 0);
             spreadToFewerGuests();
             fresh = true;
         }
@@ -876,15 +876,16 @@ public final class TallowHours {
             return burns ? atOnce : 0L;
         }
 
-        private void tryCandle(int candle, long given, int cost) {
+        /** Every figure of this candle with every one of those behind it; at most MOST_CANDLES deep. */
+        private static void tryCandle(Planner planner, int candle, long given, int cost) {
             if (candle >= MOST_CANDLES) {
-                weigh(given, cost);
+                planner.weigh(given, cost);
                 return;
             }
-            for (int figure = 0; figure <= lastFigure[candle]; figure++) {
-                figures[candle] = figure;
-                int more = figure == 0 ? 0 : price[candle];
-                tryCandle(candle + 1, given | gives[candle * FIGURES + figure], cost + more);
+            for (int figure = 0; figure <= planner.lastFigure[candle]; figure++) {
+                planner.figures[candle] = figure;
+                int more = figure == 0 ? 0 : planner.price[candle];
+                tryCandle(planner, candle + 1, given | planner.gives[candle * FIGURES + figure], cost + more);
             }
         }
 
